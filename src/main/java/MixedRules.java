@@ -485,7 +485,6 @@ public final class MixedRules {
                 oldRules[node] = NONE;
                 newRules[node] = NONE;
             }
-            calm();
         }
 
         void calm() {

@@ -1,3 +1,5 @@
+import java.util.function.IntSupplier;
+
 /** Counts answers that are not as due, and ends the program with 1 if there was one. */
 final class Check {
     private int asked;
@@ -14,6 +16,21 @@ final class Check {
         if (got != want) {
             wrong++;
             System.out.println(promise + what + " answered " + got + ", due is " + want);
+        }
+    }
+
+    /** A refused call: its answer is due, and all that the object tells is as it was. */
+    void refused(String what, MixedRules x, IntSupplier call, int want) {
+        String before = state(x);
+        due(what, call.getAsInt(), want);
+        same(what + " changed something, from and to:", before, state(x));
+    }
+
+    void same(String what, String got, String want) {
+        asked++;
+        if (!got.equals(want)) {
+            wrong++;
+            System.out.println(promise + what + "\n  " + got + "\n  " + want);
         }
     }
 
