@@ -128,6 +128,7 @@ public final class TextTest {
         fault("net\t2", 3);
         fault("net\n2", 3);
         fault("net 2\u00e9", 5);
+        fault("net\u00e9 2", 3);
         fault("link 0 1", 8);
         fault("link 0 1;net 2", 8);
         fault("link 0 1 2 3", 11);
