@@ -269,15 +269,14 @@ final class Model {
     }
 
     /** The plan with no more than so many rounds, tried from the greatest round down; null, if there is none. */
-    private List<Integer> planWithin(F f, int from, int most, List<F> moved, Map<Integer, Boolean> safe) {
-        if (from == movers(f)) return new ArrayList<>();
+    private List<Integer> planWithin(int movers, int from, int most, List<Integer> unsound) {
+        if (from == movers) return new ArrayList<>();
         if (most == 0) return null;
-        for (int round = 255; round > 0; round--) {
-            if ((round | movers(f)) != movers(f) || (round & from) != 0) continue;
-            int key = from * 256 + round;
-            if (!safe.containsKey(key)) safe.put(key, leastUnsound(f, from, round, moved) == NONE);
-            if (!safe.get(key)) continue;
-            List<Integer> rest = planWithin(f, from | round, most - 1, moved, safe);
+        for (int round = movers; round > 0; round--) {
+            if ((round | movers) != movers || (round & from) != 0) continue;
+            int all = from | round;
+            if (unsound.stream().anyMatch(set -> (set & from) == from && (set | all) == all)) continue;
+            List<Integer> rest = planWithin(movers, all, most - 1, unsound);
             if (rest != null) {
                 rest.add(0, round);
                 return rest;
@@ -287,9 +286,12 @@ final class Model {
     }
 
     List<Integer> planOf(F f, List<F> moved) {
-        Map<Integer, Boolean> safe = new HashMap<>();
+        List<Integer> unsound = new ArrayList<>();
+        for (int set = 0; set < 256; set++) {
+            if ((set | movers(f)) == movers(f) && !soundBy(f, set, moved)) unsound.add(set);
+        }
         for (int most = 0; most <= 7; most++) {
-            List<Integer> found = planWithin(f, f.turned, most, moved, safe);
+            List<Integer> found = planWithin(movers(f), f.turned, most, unsound);
             if (found != null) return found;
         }
         return null;

@@ -3,9 +3,12 @@ import java.util.Collections;
 import java.util.List;
 import java.util.Random;
 
-/** Long runs of chosen calls, each answer held against the Model's; the seeds are fixed, so that all runs are alike. */
+/**
+ * Runs of chosen calls, each answer held against the Model's; the seeds are fixed, so that all runs are alike. The
+ * document leaves free what an object answers after its 512th call, so that no run goes on behind that.
+ */
 public final class ModelTest {
-    private static final int RUNS = 100, CALLS = 90, TEXTS = 6000;
+    private static final int RUNS = 2000, TEXTS = 6000, CALLS_MOST = 512, TOLD_MOST = 400, STEP_MOST = 30;
     private static final String SIGNS = "netlikfowpsd0123456789;;   \t\nNAZ`{/:\u00e9\u00ff\u0000";
     private final Check check;
     private final Random random;
@@ -13,6 +16,7 @@ public final class ModelTest {
     private final Model y = new Model();
     private final StringBuilder story = new StringBuilder();
     private boolean strayed;
+    private int calls;
 
     private ModelTest(Check check, long seed) {
         this.check = check;
@@ -31,6 +35,10 @@ public final class ModelTest {
     }
 
     private void due(String call, int got, int want) {
+        calls++;
+        if (calls > CALLS_MOST) {
+            throw new IllegalStateException("a run of more than " + CALLS_MOST + " calls: " + story);
+        }
         story.append(call).append(" = ").append(want).append("; ");
         if (got != want && !strayed) {
             strayed = true;
@@ -51,14 +59,11 @@ public final class ModelTest {
 
     private void run() {
         tellNet();
-        for (int call = 0; call < CALLS && !strayed; call++) {
+        while (calls + STEP_MOST <= CALLS_MOST && !strayed) {
             act();
-            ask();
-            if (once(10)) {
-                askAll();
-            }
-            if (once(60)) {
-                tellNet();
+            askWhatIsFound();
+            if (once(4)) {
+                askWhatIsTold(STEP_MOST / 2);
             }
         }
     }
@@ -78,7 +83,7 @@ public final class ModelTest {
         int nodes = 2 + upTo(7);
         tell("net " + nodes);
         for (int flow = 0; flow < 3; flow++) {
-            if (!once(5)) {
+            if (!once(5) && calls < TOLD_MOST / 2) {
                 tellFlow(flow, nodes);
             }
         }
@@ -86,7 +91,7 @@ public final class ModelTest {
         int least = once(2) ? 1 : 6;
         for (int from = 0; from < nodes; from++) {
             for (int to = 0; to < nodes; to++) {
-                if (from != to && !once(absent)) {
+                if (from != to && !once(absent) && calls < CALLS_MOST) {
                     int c = least + upTo(10 - least);
                     due("link(" + from + ", " + to + ", " + c + ")", x.link(from, to, c), y.link(from, to, c));
                 }
@@ -193,7 +198,7 @@ public final class ModelTest {
         due("slots(" + n + ")", x.slots(n), y.slots(n));
     }
 
-    private void ask() {
+    private void askWhatIsFound() {
         int k = someFlow();
         int set = someSet(k);
         int what = upTo(5) - 1;
@@ -214,26 +219,48 @@ public final class ModelTest {
         }
     }
 
-    private void askAll() {
-        for (int what = -1; what <= 11; what++) {
-            due("count(" + what + ")", x.count(what), y.count(what));
-        }
-        for (int i = -1; i <= 12; i++) {
-            for (int what = -1; what <= 6; what++) {
-                due("letter(" + i + ", " + what + ")", x.letter(i, what), y.letter(i, what));
+    private void askWhatIsTold(int times) {
+        for (int i = 0; i < times; i++) {
+            int k = someFlow();
+            int node = someNode();
+            switch (upTo(6)) {
+                case 0: askCount(upTo(13) - 1); break;
+                case 1:
+                case 2: askLetter(upTo(once(5) ? 14 : y.count(4) + 1) - (once(9) ? 1 : 0), upTo(once(5) ? 7 : 6)); break;
+                case 3: askFlow(k, upTo(10) - 1); break;
+                case 4: askRule(k, node, upTo(5) - 1); break;
+                default: due("table(" + node + ")", x.table(node), y.table(node)); break;
             }
         }
-        for (int node = -1; node <= 8; node++) {
-            due("table(" + node + ")", x.table(node), y.table(node));
-        }
-        for (int k = -1; k <= 3; k++) {
-            for (int what = -1; what <= 8; what++) {
-                due("flow(" + k + ", " + what + ")", x.flow(k, what), y.flow(k, what));
+    }
+
+    private void askCount(int what) {
+        due("count(" + what + ")", x.count(what), y.count(what));
+    }
+
+    private void askLetter(int letter, int what) {
+        due("letter(" + letter + ", " + what + ")", x.letter(letter, what), y.letter(letter, what));
+    }
+
+    private void askFlow(int k, int what) {
+        due("flow(" + k + ", " + what + ")", x.flow(k, what), y.flow(k, what));
+    }
+
+    private void askRule(int k, int node, int what) {
+        due("rule(" + k + ", " + node + ", " + what + ")", x.rule(k, node, what), y.rule(k, node, what));
+    }
+
+    /** All that there is of flows and rules: 75 questions at most. */
+    private void askAllRules() {
+        askCount(0);
+        askCount(1);
+        for (int k = 0; k < 3; k++) {
+            for (int what = 0; what < 8; what++) {
+                askFlow(k, what);
             }
-            for (int node = -1; node <= 8; node++) {
-                for (int what = -1; what <= 3; what++) {
-                    due("rule(" + k + ", " + node + ", " + what + ")", x.rule(k, node, what), y.rule(k, node, what));
-                }
+            for (int node = 0; node < y.nodes; node++) {
+                askRule(k, node, 0);
+                askRule(k, node, 1);
             }
         }
     }
@@ -255,7 +282,7 @@ public final class ModelTest {
             }
         }
         tell(text.toString());
-        askAll();
+        askAllRules();
     }
 
     private String clause() {

@@ -20,73 +20,71 @@ public final class TextTest {
 
     private static void newObject() {
         check.promise(1, "a new object");
-        MixedRules x = new MixedRules();
+        Run x = new Run(check);
         int[] counts = {2, 0, 15, 6, 0, 0, 0, 0, 0, 0, 0};
         for (int what = 0; what < counts.length; what++) {
-            check.due("count(" + what + ")", x.count(what), counts[what]);
+            x.due("count(" + what + ")", counts[what]);
         }
         int[] shape = {0, 1, 1, NONE, 0, 0, 0, 0};
         for (int k = 0; k < 3; k++) {
             for (int what = 0; what < shape.length; what++) {
-                check.due("flow(" + k + ", " + what + ")", x.flow(k, what), shape[what]);
+                x.due("flow(" + k + ", " + what + ")", shape[what]);
             }
             for (int node = 0; node < 2; node++) {
                 for (int what = 0; what < 3; what++) {
-                    check.due("rule(" + k + ", " + node + ", " + what + ")", x.rule(k, node, what), NONE);
+                    x.due("rule(" + k + ", " + node + ", " + what + ")", NONE);
                 }
             }
         }
-        check.due("room(0, 1)", x.room(0, 1), 0);
-        check.due("room(1, 0)", x.room(1, 0), 0);
+        x.due("room(0, 1)", 0);
+        x.due("room(1, 0)", 0);
         check.due("the constants", MixedRules.NONE * 10000 + MixedRules.UNKNOWN * 1000 + MixedRules.OUTSIDE * 100
                 + MixedRules.NOT * 10 + MixedRules.FULL, -12345);
-        MixedRules other = Check.of("net 5;link 0 1 3");
-        check.due("count(0) of the one beside it", x.count(0), 2);
-        check.due("count(0) of the other", other.count(0), 5);
+        Run other = Run.of(check, "net 5;link 0 1 3");
+        x.due("count(0) of the one beside it", 2);
+        other.due("count(0) of the other", 5);
     }
 
     private static void write() {
         check.promise(2, "write");
-        MixedRules x = new MixedRules();
-        check.due("write(0)", x.write(0), 1);
-        check.due("write(255)", x.write(255), 2);
-        check.refused("write(-1)", x, () -> x.write(-1), OUTSIDE);
-        check.refused("write(256)", x, () -> x.write(256), OUTSIDE);
-        check.refused("write(the least)", x, () -> x.write(Integer.MIN_VALUE), OUTSIDE);
+        Run x = new Run(check);
+        x.due("write(0)", 1);
+        x.due("write(255)", 2);
+        x.due("write(-1)", OUTSIDE);
+        x.due("write(256)", OUTSIDE);
+        x.due("write(" + Integer.MIN_VALUE + ")", OUTSIDE);
         for (int i = 3; i <= 200; i++) {
-            check.due("write(32) as letter " + i, x.write(32), i);
+            x.due("write(32) as letter " + i, i);
         }
-        check.refused("write(32) when full", x, () -> x.write(32), FULL);
-        check.refused("write(256) when full", x, () -> x.write(256), OUTSIDE);
-        check.due("count(9)", x.count(9), 200);
+        x.due("write(32) when full", FULL);
+        x.due("write(256) when full", OUTSIDE);
+        x.due("count(9)", 200);
     }
 
     private static void erase() {
         check.promise(3, "erase");
-        MixedRules x = new MixedRules();
-        check.due("erase() of none", x.erase(), 0);
-        Check.write(x, "net 3");
-        check.due("erase()", x.erase(), 5);
-        check.due("count(9)", x.count(9), 0);
-        check.due("erase() again", x.erase(), 0);
-        check.due("count(0): nothing was done", x.count(0), 2);
-        for (int i = 0; i < 200; i++) {
-            x.write('a');
-        }
-        check.due("erase() when full", x.erase(), 200);
-        check.due("write() behind it", x.write('n'), 1);
+        Run x = new Run(check);
+        x.due("erase() of none", 0);
+        x.write("net 3");
+        x.due("erase()", 5);
+        x.due("count(9)", 0);
+        x.due("erase() again", 0);
+        x.due("count(0): nothing was done", 2);
+        x.write("a".repeat(200));
+        x.due("erase() when full", 200);
+        x.due("write(110) behind it", 1);
     }
 
     private static void fault(String text, int want) {
-        MixedRules x = new MixedRules();
+        Run x = new Run(check);
         faultOf(x, text, want);
     }
 
-    private static void faultOf(MixedRules x, String text, int want) {
-        Check.write(x, text);
-        check.due("fault() of '" + text + "'", x.fault(), want);
-        check.due("fault() of '" + text + "' again", x.fault(), want);
-        check.due("letters behind fault() of '" + text + "'", x.erase(), text.length());
+    private static void faultOf(Run x, String text, int want) {
+        x.write(text);
+        x.due("fault() of '" + text + "'", want);
+        x.due("fault() of '" + text + "' again", want);
+        x.due("erase() of '" + text + "'", text.length());
     }
 
     private static void faultInWordsAndEnds() {
@@ -203,7 +201,7 @@ public final class TextTest {
     }
 
     private static void faultByNetAsItIs() {
-        MixedRules x = Check.of("net 6;flow 0 4 5 1");
+        Run x = Run.of(check, "net 6;flow 0 4 5 1");
         faultOf(x, "link 4 5 1", NONE);
         faultOf(x, "link 5 6 1", 7);
         faultOf(x, "old 0 5 1", 6);
@@ -218,83 +216,83 @@ public final class TextTest {
 
     private static void rulesDoTheirClauses() {
         check.promise(5, "rules");
-        MixedRules x = new MixedRules();
-        Check.write(x, "net 4;link 0 1 5;link 1 0 7;link 0 1 6;flow 2 1 3 8;post 2 2;old 2 1 0;new 2 1 3;old 2 1 2");
-        check.due("rules()", x.rules(), 9);
-        check.due("count(9)", x.count(9), 0);
-        check.due("count(0)", x.count(0), 4);
-        check.due("count(1)", x.count(1), 2);
-        check.due("room(0, 1): the later one", x.room(0, 1), 6);
-        check.due("room(1, 0)", x.room(1, 0), 7);
+        Run x = new Run(check);
+        x.write("net 4;link 0 1 5;link 1 0 7;link 0 1 6;flow 2 1 3 8;post 2 2;old 2 1 0;new 2 1 3;old 2 1 2");
+        x.due("rules()", 9);
+        x.due("count(9)", 0);
+        x.due("count(0)", 4);
+        x.due("count(1)", 2);
+        x.due("room(0, 1): the later one", 6);
+        x.due("room(1, 0)", 7);
         int[] shape = {1, 3, 8, 2, 2, 0, 0, 0};
         for (int what = 0; what < shape.length; what++) {
-            check.due("flow(2, " + what + ")", x.flow(2, what), shape[what]);
+            x.due("flow(2, " + what + ")", shape[what]);
         }
-        check.due("rule(2, 1, 0): the later one", x.rule(2, 1, 0), 2);
-        check.due("rule(2, 1, 1)", x.rule(2, 1, 1), 3);
-        check.due("rule(0, 1, 0): of another flow", x.rule(0, 1, 0), NONE);
-        Check.write(x, "link 0 1 0;flow 2 1 3 2");
-        check.due("rules() again", x.rules(), 2);
-        check.due("count(0) stays", x.count(0), 4);
-        check.due("room(0, 1) is gone", x.room(0, 1), 0);
-        check.due("room(1, 0) stays", x.room(1, 0), 7);
-        check.due("flow(2, 2)", x.flow(2, 2), 2);
-        check.due("flow(2, 3): no post", x.flow(2, 3), NONE);
-        check.due("rule(2, 1, 0): no rules", x.rule(2, 1, 0), NONE);
-        check.due("rule(2, 1, 1): no rules", x.rule(2, 1, 1), NONE);
-        Check.write(x, "net2;".repeat(23) + "net2");
-        check.due("rules() of 24", x.rules(), 24);
+        x.due("rule(2, 1, 0): the later one", 2);
+        x.due("rule(2, 1, 1)", 3);
+        x.due("rule(0, 1, 0): of another flow", NONE);
+        x.write("link 0 1 0;flow 2 1 3 2");
+        x.due("rules() again", 2);
+        x.due("count(0) stays", 4);
+        x.due("room(0, 1) is gone", 0);
+        x.due("room(1, 0) stays", 7);
+        x.due("flow(2, 2)", 2);
+        x.due("flow(2, 3): no post", NONE);
+        x.due("rule(2, 1, 0): no rules", NONE);
+        x.due("rule(2, 1, 1): no rules", NONE);
+        x.write("net2;".repeat(23) + "net2");
+        x.due("rules() of 24", 24);
     }
 
     private static void rulesStartAnew() {
-        MixedRules x = Check.of("net 4;flow 0 0 1 2;post 0 3;link 0 2 5;link 2 1 5;link 0 1 5;old 0 0 2;new 0 0 1;new 0 2 1");
-        x.want(3);
-        x.slots(4);
-        x.send(0);
-        x.send(1);
-        x.tick();
-        x.force(0, 4);
-        x.send(0);
-        x.tick();
-        x.ready(1);
+        Run x = Run.of(check, "net 4;flow 0 0 1 2;post 0 3;link 0 2 5;link 2 1 5;link 0 1 5;old 0 0 2;new 0 0 1;new 0 2 1");
+        x.does("want(3)");
+        x.does("slots(4)");
+        x.does("send(0)");
+        x.does("send(1)");
+        x.does("tick()");
+        x.does("force(0, 4)");
+        x.does("send(0)");
+        x.does("tick()");
+        x.does("ready(1)");
         for (int what = 4; what <= 8; what++) {
-            check.due("count(" + what + ") ahead", x.count(what), 1);
+            x.due("count(" + what + ") ahead", 1);
         }
-        Check.write(x, "link 0 1 4");
-        check.due("rules()", x.rules(), 1);
-        check.due("rule(0, 2, 1) stays", x.rule(0, 2, 1), 1);
-        check.due("flow(0, 5)", x.flow(0, 5), 0);
-        check.due("flow(0, 7)", x.flow(0, 7), 0);
-        check.due("flow(1, 6)", x.flow(1, 6), 0);
-        check.due("count(2)", x.count(2), 3);
-        check.due("count(3)", x.count(3), 4);
+        x.write("link 0 1 4");
+        x.due("rules()", 1);
+        x.due("rule(0, 2, 1) stays", 1);
+        x.due("flow(0, 5)", 0);
+        x.due("flow(0, 7)", 0);
+        x.due("flow(1, 6)", 0);
+        x.due("count(2)", 3);
+        x.due("count(3)", 4);
         for (int what = 4; what <= 8; what++) {
-            check.due("count(" + what + ")", x.count(what), 0);
+            x.due("count(" + what + ")", 0);
         }
-        check.due("send(0)", x.send(0), 1);
-        check.due("letter(0, 4): no rounds are done", x.letter(0, 4), 0);
-        Check.write(x, "net 3");
-        check.due("rules() of a net", x.rules(), 1);
-        check.due("room(0, 1)", x.room(0, 1), 0);
-        check.due("rule(0, 2, 1)", x.rule(0, 2, 1), NONE);
+        x.due("send(0)", 1);
+        x.due("letter(0, 4): no rounds are done", 0);
+        x.write("net 3");
+        x.due("rules() of a net", 1);
+        x.due("room(0, 1)", 0);
+        x.due("rule(0, 2, 1)", NONE);
         int[] shape = {0, 1, 1, NONE, 0, 0, 0, 0};
         for (int what = 0; what < shape.length; what++) {
-            check.due("flow(0, " + what + ")", x.flow(0, what), shape[what]);
+            x.due("flow(0, " + what + ")", shape[what]);
         }
-        check.due("count(2) stays", x.count(2), 3);
-        check.due("count(3) stays", x.count(3), 4);
+        x.due("count(2) stays", 3);
+        x.due("count(3) stays", 4);
     }
 
     private static void rulesRefused() {
-        MixedRules x = Check.of("net 3;link 0 1 4;old 0 0 1;new 0 0 2");
-        x.force(0, 1);
-        x.send(0);
-        check.refused("rules() of no text", x, x::rules, NOT);
-        Check.write(x, "net 8;link 0 1 5;link 0 0 1");
-        check.refused("rules() with a fault", x, x::rules, NOT);
-        check.due("count(9): the text stays", x.count(9), 27);
-        x.erase();
-        Check.write(x, "net2;".repeat(25));
-        check.refused("rules() of 25", x, x::rules, NOT);
+        Run x = Run.of(check, "net 3;link 0 1 4;old 0 0 1;new 0 0 2");
+        x.does("force(0, 1)");
+        x.does("send(0)");
+        x.due("rules() of no text", NOT);
+        x.write("net 8;link 0 1 5;link 0 0 1");
+        x.due("rules() with a fault", NOT);
+        x.due("count(9): the text stays", 27);
+        x.does("erase()");
+        x.write("net2;".repeat(25));
+        x.due("rules() of 25", NOT);
     }
 }
