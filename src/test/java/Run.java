@@ -41,6 +41,10 @@ final class Run {
         return about;
     }
 
+    int calls() {
+        return calls;
+    }
+
     /** The text is written, and its clauses are done. */
     void tell(String text) {
         write(text);
