@@ -438,6 +438,11 @@ public final class EdgeCallsTest {
         x.due("reverse(0)", 0);
         x.due("ready(0): a stale letter is no matter", 4);
         x.due("flow(0, 6)", 1);
+        Run all = Run.of(check, WAYS, LINKS);
+        all.does("force(0, 7)");
+        all.due("ready(0): all are turned", NOT);
+        all.does("reverse(0)");
+        all.due("ready(0): none are", 2);
         Run none = new Run(check);
         none.due("ready(2): no rules at all", 0);
         none.due("flow(2, 6)", 1);
@@ -484,6 +489,14 @@ public final class EdgeCallsTest {
         }
         all.does("ready(0)");
         all.due("flip(0): the most that there can be", 12);
+        Run stamped = Run.of(check, "net 3;old 0 0 2;new 0 0 2;link 0 2 1");
+        stamped.does("ready(0)");
+        stamped.does("flip(0)");
+        stamped.does("send(0)");
+        stamped.due("finish(0): no movers, so that it can be ready again", 0);
+        stamped.does("send(0)");
+        stamped.does("ready(0)");
+        stamped.due("flip(0): one is stamped already", 2);
     }
 
     private static void finish() {
@@ -492,6 +505,11 @@ public final class EdgeCallsTest {
         Run x = busy();
         x.due("finish(0): it is plain", NOT);
         x.due("finish(1): it is ready", NOT);
+        Run ready = Run.of(check, WAYS, LINKS);
+        ready.does("ready(0)");
+        ready.due("finish(0): ready, and no letter is under way", NOT);
+        ready.does("flip(0)");
+        ready.due("finish(0): flipped, and no letter is under way", 7);
         x.due("finish(2): its letter is stamped, others are not", 1);
         x.due("flow(2, 6)", 0);
         x.due("finish(2): it is plain", NOT);

@@ -27,6 +27,7 @@ public final class EdgeTermsTest {
         holdsThatItMeetsItsPost();
         holdsThatThereIsRoom();
         holdsThatThereIsRoomBesideOthers();
+        roundsBesideOthers();
         wanted();
         rounds();
         safeByTurned();
@@ -36,6 +37,7 @@ public final class EdgeTermsTest {
         plansWithoutRounds();
         plansOfTheMostRounds();
         plansAmongSeveral();
+        plansOfTheFewestRounds();
         roundsAheadAreTurned();
         orders();
         ordersThatAreNone();
@@ -297,6 +299,12 @@ public final class EdgeTermsTest {
         x.due("sound(0, 64): back by one", 12);
         x.due("load(5, 6)", 1);
         x.due("load(6, 0): the link on which it would come back", 0);
+        Run three = Run.of(check, "net 5;flow 0 0 4 1;old 0 0 1;old 0 1 2;old 0 2 3;old 0 3 1");
+        three.linkAll(5, 1);
+        three.dueFromZero("walk(0, 0, ", 15, 4, 3);
+        three.due("sound(0, 0): round by three, not by its source", 12);
+        three.due("load(2, 3)", 1);
+        three.due("load(3, 1): the link on which it would come back", 0);
     }
 
     private static void holdsThatItArrives() {
@@ -387,6 +395,32 @@ public final class EdgeTermsTest {
         x.due("sound(1, 1): it does not go there", 14);
     }
 
+    /** Two flows that change places by 1 and 2, and a third one: as they are now, not as they will be. */
+    private static void roundsBesideOthers() {
+        check.sentence("SIZES of other FLOWS whose WALK by their TURNED goes along it, together");
+        for (int k = 1; k <= 2; k++) {
+            Run x = k == 1 ? lanes(1, 2, 3, 4, 1, 3) : lanes(1, 3, 2, 4, 3, 1);
+            String flow = "(" + k;
+            x.due("safe" + flow + ", 2, 0): nobody goes there yet", 1);
+            x.due("load(0, 1)", 3);
+            x.due("turn" + flow + ", 2)", 2);
+            x.due("load(0, 1): all flows weigh there, itself too", 3);
+            x.dueFromZero("safe" + flow + ", 1, ", 0, 3, 3);
+            x.due("load(0, 1): all flows weigh there, itself too", 3);
+            x.due("turn" + flow + ", 1): no room", NOT);
+            x.due("rounds" + flow + "): no room", NONE);
+            x.due("plan" + flow + ", 0): no room", NOT);
+            x.due("advance" + flow + "): no room", NONE);
+            x.due("turn(0, 16)", 16);
+            x.due("turn(0, 1)", 17);
+            x.dueFromZero("safe" + flow + ", 1, ", 1, NONE, NONE);
+            x.due("rounds" + flow + ")", 2);
+            x.dueFromZero("plan" + flow + ", ", 1, 4, OUTSIDE);
+            x.due("advance" + flow + ")", 1);
+            x.due("load(0, 1)", 3);
+        }
+    }
+
     /** By node 0 the post is missed, by 1 it ends, by 3 there is a ring, by 4 there is no room. */
     private static void wanted() {
         check.sentence("WANTED: a set of these, as bits (15 at first); the FLOW is SOUND by a SET, if all that is WANTED holds");
@@ -445,7 +479,11 @@ public final class EdgeTermsTest {
         x.does("force(0, 4)");
         x.dueFromZero("safe(0, 1, ", 0, 4, 3);
         x.due("turn(0, 1)", NOT);
+        x.due("rounds(0): no first round is safe", NONE);
+        x.due("plan(0, 0)", NOT);
+        x.due("advance(0)", NONE);
         x.does("link(1, 3, 2)");
+        x.due("rounds(0)", 1);
         x.dueFromZero("safe(0, 1, ", 1, NONE, NONE);
         x.due("turn(0, 1)", 5);
     }
@@ -556,6 +594,19 @@ public final class EdgeTermsTest {
         three.dueFromZero("plan(0, ", 4, 33, 2, OUTSIDE);
     }
 
+    /** By old 0 3 2 1 4 5, by new 0 2 3 4 1 5, past 4: 9 may be first too, but then there are four rounds. */
+    private static void plansOfTheFewestRounds() {
+        check.sentence("Of all PLANS that have the fewest ROUNDS");
+        Run x = Run.of(check, "net 6;flow 0 0 5 1;post 0 4;old 0 0 3;old 0 3 2;old 0 2 1;old 0 1 4;old 0 4 5",
+                "new 0 0 2;new 0 2 3;new 0 3 4;new 0 4 1;new 0 1 5");
+        x.linkAll(6, 1);
+        x.due("rounds(0)", 3);
+        x.dueFromZero("plan(0, ", 8, 6, 17, OUTSIDE);
+        x.due("safe(0, 9, 0): greater, and safe", 1);
+        x.due("turn(0, 9)", 9);
+        x.due("rounds(0): three more", 3);
+    }
+
     /** 2 must turn ahead of 0, and 0 ahead of 1: the first round alone would not tell that the third is safe. */
     private static void roundsAheadAreTurned() {
         check.sentence("each SAFE when those ahead are TURNED too, behind which all MOVERS are TURNED");
@@ -593,6 +644,8 @@ public final class EdgeTermsTest {
         new Run(check).dueFromZero("order(", 0, 1, 2, OUTSIDE);
         lanes(1, 2, 3, 1, 2, 3).dueFromZero("order(", 0, 1, 2);
         lanes(1, 2, 3, 4, 2, 3).dueFromZero("order(", 0, 1, 2);
+        lanes(1, 2, 3, 4, 2, 1).dueFromZero("order(", 0, 1, 2);
+        lanes(1, 2, 3, 4, 3, 3).dueFromZero("order(", NONE, NONE, NONE);
         lanes(1, 2, 3, 1, 3, 4).dueFromZero("order(", 0, 2, 1);
         lanes(1, 2, 3, 2, 4, 3).dueFromZero("order(", 1, 0, 2);
         lanes(1, 2, 3, 3, 2, 4).dueFromZero("order(", 1, 2, 0);
@@ -600,6 +653,12 @@ public final class EdgeTermsTest {
         lanes(1, 2, 3, 3, 1, 4).dueFromZero("order(", 2, 0, 1);
         lanes(1, 2, 3, 2, 3, 4).dueFromZero("order(", 2, 1, 0);
         lanes(1, 3, 2, 2, 4, 3).dueFromZero("order(", 1, 2, 0);
+        Run both = Run.of(check, "net 4;flow 0 0 3 2;flow 1 0 3 2;flow 2 0 3 5;old 0 0 1;old 1 0 1;old 2 0 2;new 0 0 2;new 1 0 2",
+                "new 2 0 3;old 0 1 3;old 1 1 3;old 2 2 3;new 0 1 3;new 1 1 3;new 2 2 3;old 0 2 3;old 1 2 3;new 0 2 3;new 1 2 3");
+        both.linkAll(4, 5);
+        both.due("waits(0, 2)", 1);
+        both.due("waits(1, 2)", 1);
+        both.dueFromZero("order(", 2, 0, 1);
     }
 
     private static void ordersThatAreNone() {
@@ -655,5 +714,19 @@ public final class EdgeTermsTest {
         x.due("waits(0, 1): all its movers are turned", 1);
         x.does("force(1, 1)");
         x.due("waits(0, 1): the other one has gone", 0);
+        Run post = lanes(1, 2, 3, 2, 4, 3);
+        post.tell("post 0 1;new 0 3 4;new 0 4 3");
+        post.due("sound(0, 31): past its post, a ring, and no room", 1);
+        post.due("waits(0, 1): its post and rings are no matter", 1);
+        Run third = lanes(1, 2, 1, 4, 1, 3);
+        third.due("waits(1, 0): a third one is in its way as well", 0);
+        third.due("waits(1, 2): a third one is in its way as well", 0);
+        third.does("link(0, 1, 6)");
+        third.does("link(1, 5, 6)");
+        third.due("waits(1, 0): either may go", 1);
+        third.due("waits(1, 2): either may go", 1);
+        third.does("force(2, 9)");
+        third.due("waits(1, 2): it has gone", 0);
+        third.due("waits(1, 0): there is room by now", 0);
     }
 }

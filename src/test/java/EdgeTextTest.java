@@ -367,7 +367,7 @@ public final class EdgeTextTest {
     }
 
     private static void goalsByThen() {
-        check.sentence("(neither its SOURCE nor its GOAL), (not its GOAL)");
+        check.sentence("(neither its SOURCE nor its GOAL)");
         beside("net 5;flow 0 2 3 1");
         fault("old 0 1 0", NONE);
         fault("old 0 3 0", 6);

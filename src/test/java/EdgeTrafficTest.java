@@ -166,6 +166,9 @@ public final class EdgeTrafficTest {
             x.due("send(0)", i);
         }
         x.due("send(0): full again", FULL);
+        for (int i = 0; i < 12; i++) {
+            x.due("letter(" + i + ", 2)", i < 6 ? 1 : 0);
+        }
         x.due("tick(): six are there", 6);
         x.due("send(0)", 7);
     }
@@ -280,7 +283,7 @@ public final class EdgeTrafficTest {
     }
 
     private static void lettersNotStale() {
-        check.sentence("so many ROUNDS its FLOW has done since it was sent");
+        check.sentence("its FLOW has done since it was sent");
         Run x = Run.of(check, WAYS, LINKS);
         x.does("send(0)");
         x.does("ready(0)");
@@ -382,11 +385,11 @@ public final class EdgeTrafficTest {
         x.due("tick()", 1);
         x.due("count(5)", 1);
         x.due("count(8)", 0);
-        Run direct = Run.of(check, "old 0 0 1;link 0 1 1");
+        Run direct = Run.of(check, "flow 0 0 1 9;old 0 0 1;link 0 1 1");
         for (int i = 1; i <= 12; i++) {
             direct.does("send(0)");
         }
-        direct.due("tick(): all by one", 12);
+        direct.due("tick(): all by one, whatever room there is", 12);
         direct.due("count(5)", 12);
         direct.due("tick()", 0);
         direct.due("count(5): they stay", 12);
@@ -458,6 +461,33 @@ public final class EdgeTrafficTest {
         back.due("letter(0, 5): new first", 0);
         back.due("tick(): old behind it", 1);
         back.due("count(7)", 1);
+        Run on = Run.of(check, RING);
+        on.does("send(0)");
+        on.does("tick()");
+        on.does("tick()");
+        on.does("link(1, 2, 0)");
+        on.does("force(0, 2)");
+        on.does("tick()");
+        on.due("letter(0, 5): not yet", 0);
+        on.due("tick(): no link, it does not go on", 0);
+        on.due("count(7): it is lost", 0);
+        Run three = Run.of(check, "net 4;flow 0 0 3 1;old 0 0 1;new 0 0 2;old 0 1 2;new 0 1 3;link 0 1 1;link 1 2 1;link 0 2 1;link 2 0 1",
+                "new 0 2 0");
+        three.does("send(0)");
+        three.does("send(0)");
+        three.does("tick()");
+        three.does("tick()");
+        three.due("letter(0, 5): by old twice", 0);
+        three.does("force(0, 4)");
+        three.does("send(0)");
+        three.does("tick()");
+        three.due("letter(0, 5): then by new", 1);
+        three.due("letter(1, 5)", 1);
+        three.due("letter(2, 5): by old once", 0);
+        three.does("reverse(0)");
+        three.does("tick()");
+        three.due("letter(0, 5): it stays so", 1);
+        three.due("letter(2, 5): by old twice", 0);
     }
 
     private static void mixedByMoversAlone() {
